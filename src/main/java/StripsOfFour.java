@@ -478,6 +478,11 @@ public final class StripsOfFour {
             && !has(now.seenNear(1 - booth, minute, plan.walk), person);
     }
 
+    /** Whether THE HAT may go on from one LOOK to the next: not from one head to another. */
+    private static boolean hatGoesOn(int hatBefore, int hatBehind) {
+        return hatBefore == NONE || hatBehind == NONE || hatBefore == hatBehind;
+    }
+
     private static long inLeastTerms(long above, long below, boolean upper) {
         long divisor = above;
         long rest = below;
@@ -924,11 +929,6 @@ public final class StripsOfFour {
             scene.copyFrom(before[Math.floorMod(first + acts, MOST_ACTS)]);
             return true;
         }
-    }
-
-    /** Whether THE HAT may go on from one LOOK to the next: not from one head to another. */
-    private static boolean hatGoesOn(int hatBefore, int hatBehind) {
-        return hatBefore == NONE || hatBehind == NONE || hatBefore == hatBehind;
     }
 
     /** The parts of TORN STRIPS that lie about, mixed. */

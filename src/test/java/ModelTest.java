@@ -844,6 +844,7 @@ public final class ModelTest {
             due(21, "together(" + what + ")", x.together(what), model.together(what));
         } else if (kind == 2) {
             due(22, "orders()", x.orders(), model.orders());
+        } else if (kind == 7) {
             due(23, "orderAt(" + i + ")", x.orderAt(i), model.orderAt(i));
         } else if (kind == 3) {
             int row = drawnRow(4);
@@ -914,7 +915,7 @@ public final class ModelTest {
             } else if (kind < 70) {
                 callAct();
             } else if (kind < 88) {
-                callStrips(upTo(6));
+                callStrips(upTo(7));
             } else if (kind < 97) {
                 callEyes(upTo(2));
             } else {

@@ -727,6 +727,10 @@ public final class PromisesTest {
         due("22 seven", six.orders(), LATE);
         due("23 seven", six.orderAt(0), LATE);
         due("23 unknown comes first", six.orderAt(7), UNKNOWN);
+        six.undo();
+        due("23 without orders before, one begun", six.orderAt(0), 63);
+        StripsOfFour alone = hats("0001" + "1110");
+        due("23 without orders before", alone.orderAt(1), 3);
         StripsOfFour one = hats("0001");
         due("22 one", one.orders(), 1);
         due("23 one", one.orderAt(0), 1);
