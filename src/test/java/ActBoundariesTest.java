@@ -301,6 +301,32 @@ public final class ActBoundariesTest {
         due("who is in", x.booth(0, 2), 27);
     }
 
+    @Says("IN: how many are in it then.")
+    static void enterEachBoothByItself() {
+        StripsOfFour x = Fairs.of("B0S01S01P0P0P0P0P0");
+        due("the first", x.enter(0, 0), 1);
+        due("the first of the other", x.enter(1, 1), 1);
+        due("the second", x.enter(2, 0), 2);
+        due("the second of the other", x.enter(3, 1), 2);
+    }
+
+    @Says("FULL: there are four.")
+    static void enterAFullBoothAgainAndAgain() {
+        StripsOfFour x = Fairs.of("B0S01P0P0P0P0P0");
+        for (int person = 4; person > 0; person--) {
+            x.enter(person, 0);
+        }
+        due("four are in", x.enter(0, 0), FULL);
+        x.minute();
+        due("four are in a minute later", x.enter(0, 0), FULL);
+        x.day();
+        due("four are in a day later", x.enter(0, 0), FULL);
+        x.undo();
+        x.undo();
+        x.undo();
+        due("when the fourth is undone", x.enter(0, 0), 4);
+    }
+
     // ---- leave
 
     @Says("OUT: how many are left in it. UNKNOWN; LATE: it is in none.")
@@ -391,6 +417,18 @@ public final class ActBoundariesTest {
         due("from nobody", x.hat(0), NONE);
         due("from 0", x.hat(1), 0);
         due("from 1", x.hat(0), 1);
+    }
+
+    @Says("One that is in a BOOTH takes THE HAT, if nobody has it, or from another one in that BOOTH.")
+    static void hatOfTheFirstAndTheLastPerson() {
+        StripsOfFour x = Fairs.of("B0S01S01P0P0P0P0P0");
+        x.enter(4, 1);
+        x.enter(0, 1);
+        due("the last one", x.hat(4), NONE);
+        due("the first one", x.hat(0), 4);
+        due("the last one again", x.hat(4), 0);
+        x.undo();
+        due("undone", x.about(6), 0);
     }
 
     // ---- minute
@@ -646,6 +684,21 @@ public final class ActBoundariesTest {
         Sentences.same("back again", Fairs.stripView(x, 6), before[6]);
     }
 
+    @Says("STUCK: the last two STRIPS in THE CHUTE change places.")
+    static void stuckInAFullChute() {
+        StripsOfFour x = Fairs.of("B0S01S01P0P0");
+        x.enter(0, 0);
+        Fairs.minutes(x, 28);
+        x.leave(0);
+        x.enter(1, 1);
+        Fairs.minutes(x, 4);
+        String last = Fairs.stripView(x, 7);
+        String before = Fairs.stripView(x, 6);
+        due("of which the last one is then", x.stuck(), 0);
+        Sentences.same("the last one", Fairs.stripView(x, 7), before);
+        Sentences.same("the one before", Fairs.stripView(x, 6), last);
+    }
+
     // ---- tear
 
     @Says("TORN: how many are TORN. UNKNOWN; BAD: k; LATE: it is TORN.")
@@ -690,6 +743,17 @@ public final class ActBoundariesTest {
     }
 
     // ---- day
+
+    @Says("A DAY goes by: THE DAY is one more")
+    static void manyDays() {
+        StripsOfFour x = new StripsOfFour();
+        for (int day = 1; day <= 400; day++) {
+            due("day", x.day(), day);
+        }
+        due("about", x.about(4), 400);
+        x.undo();
+        due("undone", x.about(4), 399);
+    }
 
     @Says("each STRIP in THE CHUTE fades by 1 (9 at most).")
     static void fadedNineAtMost() {
@@ -835,6 +899,78 @@ public final class ActBoundariesTest {
         Sentences.same("begun again", Fairs.view(x), before);
         due("two fall again", x.minute(), 2);
         Sentences.same("by the same draws", Fairs.view(x), behind);
+    }
+
+    @Says("the last one can be undone")
+    static void undoOfTheLastPerson() {
+        StripsOfFour x = Fairs.of("B0S01S01P0P0P0P0P0");
+        x.enter(4, 1);
+        x.minute();
+        x.leave(4);
+        due("left", x.person(4, 2), 1);
+        x.undo();
+        due("in again", x.person(4, 1), 1);
+        due("left none", x.person(4, 2), NONE);
+        due("left never", x.person(4, 3), NONE);
+        x.undo();
+        x.undo();
+        due("in none", x.person(4, 1), NONE);
+    }
+
+    @Says("the last one can be undone")
+    static void undoWithAFullChute() {
+        StripsOfFour x = Fairs.of("B0S01S01P0P0");
+        x.enter(0, 0);
+        Fairs.minutes(x, 28);
+        x.leave(0);
+        x.enter(1, 1);
+        Fairs.minutes(x, 4);
+        String before = Fairs.stripView(x, 7);
+        x.tear(7, 3);
+        x.undo();
+        Sentences.same("the eighth, not torn", Fairs.stripView(x, 7), before);
+        x.day();
+        x.undo();
+        Sentences.same("the eighth, not faded", Fairs.stripView(x, 7), before);
+        due("stuck", x.stuck(), 0);
+        x.undo();
+        Sentences.same("the eighth, in its place", Fairs.stripView(x, 7), before);
+        x.undo();
+        due("seven", x.about(5), 7);
+        due("the eighth is none", x.strip(7, 0), UNKNOWN);
+        due("it falls again", x.minute(), 1);
+        Sentences.same("the eighth again", Fairs.stripView(x, 7), before);
+    }
+
+    @Says("the last one can be undone")
+    static void undoneStripsAreNone() {
+        StripsOfFour x = Fairs.of("B3S01S01P0P0");
+        x.enter(0, 0);
+        Fairs.minutes(x, 4);
+        x.tear(0, 2);
+        due("torn", x.about(8), 1);
+        x.undo();
+        x.tear(0, 1);
+        x.day();
+        // the day, the tear and the minute by which it fell
+        Fairs.minutes(x, 1);
+        for (int i = 0; i < 4; i++) {
+            x.undo();
+        }
+        due("strips", x.about(5), 0);
+        due("torn", x.about(8), 0);
+        due("eyes", x.eyes(0, 0), 0);
+        due("forgery of its own booth", x.forgery(0, 0, 0), NONE);
+        due("forgery of the other booth", x.forgery(1, 0, 1010101), NONE);
+        due("between", x.between(0, 1), 7);
+        due("together, at most", x.together(0), 0);
+        due("together, ways", x.together(1), 1);
+        due("orders", x.orders(), 1);
+        due("orderAt", x.orderAt(0), UNKNOWN);
+        due("found", x.found(0, 1, 1), UNKNOWN);
+        due("it falls again", x.minute(), 1);
+        due("not torn", x.strip(0, 1), 0);
+        due("not faded", x.strip(0, 2), 0);
     }
 
     @Says("ACTS (IN, OUT, HATS, MINUTES, STUCK, TORN, DAYS) are a row")

@@ -194,6 +194,17 @@ public final class EyeAndSlotBoundariesTest {
         open(x, 1, 1, 0, 1);
     }
 
+    @Says("on a LOOK of all that are in a BOOTH now")
+    static void openOfEachPerson() {
+        StripsOfFour x = Fairs.of("B0S01P1P3P7P9P3");
+        int[] open = {9, 7, 3, 1, 7};
+        for (int person = 0; person < 5; person++) {
+            x.enter(person, 0);
+            open(x, 0, 1, open[person], 10);
+            x.leave(person);
+        }
+    }
+
     @Says("k (0 .. 5) or more do not blink")
     static void openOrMore() {
         StripsOfFour x = Fairs.of("B0S01P0P5P5");
@@ -282,6 +293,27 @@ public final class EyeAndSlotBoundariesTest {
     }
 
     @Says("SLOTS 0 .. 1 keep all of it")
+    static void keepOfAFullChuteAndTheLastPerson() {
+        StripsOfFour x = Fairs.of("B0S01S01P0P0P0P0P0");
+        x.enter(4, 1);
+        Fairs.minutes(x, 32);
+        x.tear(7, 2);
+        x.leave(4);
+        x.minute();
+        x.enter(4, 0);
+        String before = Fairs.stripView(x, 7);
+        due("keep", x.keep(1), 33);
+        x.day();
+        x.stuck();
+        x.leave(4);
+        due("again", x.again(1), 33);
+        Sentences.same("the eighth", Fairs.stripView(x, 7), before);
+        due("in", x.person(4, 1), 0);
+        due("left", x.person(4, 2), 1);
+        due("left at", x.person(4, 3), 32);
+    }
+
+    @Says("SLOTS 0 .. 1 keep all of it")
     static void keepOfANewObject() {
         StripsOfFour x = new StripsOfFour();
         due("keep", x.keep(0), 0);
@@ -308,6 +340,25 @@ public final class EyeAndSlotBoundariesTest {
         x.again(1);
         due("what was kept over", x.again(0), 5);
         due("strips", x.about(5), 1);
+    }
+
+    @Says("It is as it was kept")
+    static void againWithLessStrips() {
+        StripsOfFour x = Fairs.ofStrips(0);
+        x.keep(0);
+        Fairs.minutes(x, 8);
+        x.tear(0, 1);
+        x.tear(1, 2);
+        x.day();
+        due("again", x.again(0), 0);
+        due("strips", x.about(5), 0);
+        due("torn", x.about(8), 0);
+        due("eyes", x.eyes(0, 0), 0);
+        due("between", x.between(0, 0), 5);
+        Fairs.minutes(x, 4);
+        due("a new one is not torn", x.strip(0, 1), 0);
+        due("a new one is not faded", x.strip(0, 2), 0);
+        due("torn", x.about(8), 0);
     }
 
     @Says("(no ACTS when one goes on)")

@@ -244,6 +244,27 @@ public final class StripBoundariesTest {
         due("of three lengths, ways", y.together(1), 72);
     }
 
+    @Says("How many upper ones can be put together with lower ones at most")
+    static void togetherAskedInAnyOrder() {
+        StripsOfFour x = Fairs.ofHats("2011" + "2011");
+        x.tear(0, 2);
+        x.tear(1, 2);
+        for (int i = 0; i < 2; i++) {
+            due("ways", x.together(1), 0);
+            due("at most", x.together(0), 0);
+        }
+        x.undo();
+        x.tear(1, 3);
+        due("ways, torn elsewhere", x.together(1), 0);
+        due("at most, torn elsewhere", x.together(0), 1);
+        x.undo();
+        due("ways, one torn", x.together(1), 0);
+        due("at most, one torn", x.together(0), 0);
+        x.undo();
+        due("ways, none torn", x.together(1), 1);
+        due("at most, none torn", x.together(0), 0);
+    }
+
     // ---- orders
 
     @Says("ORDERS: how many. LATE: there are more than 6.")
@@ -312,6 +333,24 @@ public final class StripBoundariesTest {
         due("first", x.orderAt(0), 1);
         due("between", x.orderAt(1), 2);
         due("last", x.orderAt(2), 4);
+    }
+
+    @Says("ORDERS: rows of all STRIPS")
+    static void ordersAskedAgainOfOtherStrips() {
+        StripsOfFour x = Fairs.ofHats("0001" + "1000");
+        due("0 1 and 1 0", x.orders(), 2);
+        x.undo();
+        x.hat(2);
+        x.minute();
+        due("1 0 does not hold any more", x.orders(), 1);
+        due("first", x.orderAt(0), 1);
+        due("last", x.orderAt(1), 2);
+        x.stuck();
+        due("they changed places", x.orders(), 1);
+        due("the first one is last", x.orderAt(0), 2);
+        x.undo();
+        x.undo();
+        due("one alone", x.orders(), 1);
     }
 
     // ---- forgery
@@ -443,6 +482,38 @@ public final class StripBoundariesTest {
         due("at 5: two minutes from it", x.forgery(0, 5, 1010101), NONE);
     }
 
+    @Says("or one of its set is on a LOOK (of a STRIP) of the other BOOTH at that MINUTE, or less than WALK MINUTES from it")
+    static void forgeryOfSeveralLooksThatAreNear() {
+        StripsOfFour x = Fairs.of("B4S01S01P0P0P0P0P0");
+        for (int person = 0; person < 4; person++) {
+            seat(x, 0, 1 << person);
+            x.minute();
+        }
+        // 0 at 0, 1 at 1, 2 at 2, 3 at 3: from 4 on, four minutes from each in turn
+        for (int m = 0; m < 9; m++) {
+            for (int person = 0; person < 5; person++) {
+                boolean near = person < 4 && Math.abs(m - person) < 4;
+                due("person " + person + " at " + m, x.forgery(1, m, (1 << person) * 1000000), near ? 0 : NONE);
+                due("between of it", x.between(person, m) >> 1 & 1, near ? 0 : 1);
+            }
+        }
+    }
+
+    @Says("or a LOOK of that BOOTH at that MINUTE on a STRIP shows another set")
+    static void forgeryByTheEighthStrip() {
+        StripsOfFour x = Fairs.ofStrips(8);
+        due("as it is", x.forgery(0, 28, 1010101), NONE);
+        due("another set on the last look", x.forgery(0, 28, 1010102), 3);
+        due("between, without it", x.between(1, 31), 4);
+        StripsOfFour y = Fairs.of("B2S01S01P0");
+        y.enter(0, 0);
+        Fairs.minutes(y, 32);
+        due("in the other at the last look", y.forgery(1, 31, 1000000), 0);
+        due("less than a walk from it", y.forgery(1, 32, 1000000), 0);
+        due("a walk from it", y.forgery(1, 33, 1000000), NONE);
+        due("between", y.between(0, 31), 1);
+    }
+
     // ---- toSit
 
     @Says("TO SIT. UNKNOWN: booth; BAD: row (as above, of four; four PEOPLE in each at most, that there are).")
@@ -501,6 +572,17 @@ public final class StripBoundariesTest {
         due("of the other booth: walks, other booths do not count", x.toSit(1, 15151515), 4);
     }
 
+    @Says("(WALKS, other BOOTHS do not count)")
+    static void toSitOfOneInTheOtherBooth() {
+        StripsOfFour x = Fairs.of("B9S01S01P0P0");
+        x.enter(0, 1);
+        due("it is in the other: one step", x.toSit(0, 1010101), 1);
+        due("out of that one", x.toSit(1, 0), 1);
+        x.leave(0);
+        due("it comes too soon", x.enter(0, 0), LATE);
+        due("no walk counts", x.toSit(0, 1010101), 1);
+    }
+
     @Says("how often somebody must step IN or OUT of a BOOTH at least")
     static void toSitAtMost() {
         StripsOfFour x = Fairs.of("B0S01P0P0P0P0P0");
@@ -531,6 +613,21 @@ public final class StripBoundariesTest {
         due("no booth", Fairs.of("B0P0").between(0, 5), 4);
         due("one booth", Fairs.of("B0S01P0").between(0, 5), 5);
         due("two booths", Fairs.of("B0S01S01P0").between(0, 5), 7);
+    }
+
+    @Says("BETWEEN: where a PERSON can have been at MINUTE m, by the LOOKS of STRIPS alone")
+    static void betweenOfEachPerson() {
+        StripsOfFour none = Fairs.of("B0S01S01P0P0P0P0P0");
+        for (int person = 0; person < 5; person++) {
+            due("no strips, person " + person, none.between(person, 0), 7);
+            StripsOfFour x = Fairs.of("B1S01S01P0P0P0P0P0");
+            x.enter(person, 1);
+            Fairs.minutes(x, 4);
+            for (int other = 0; other < 5; other++) {
+                due("on it " + person + ", asked " + other, x.between(other, 2), other == person ? 2 : 1 + 4);
+                due("behind it", x.between(other, 4), 7);
+            }
+        }
     }
 
     @Says("if there is no LOOK of that BOOTH at that MINUTE without it")

@@ -301,6 +301,8 @@ public final class TextBoundariesTest {
         faultOf("B0S09", NONE);
         faultOf("B0S0:", 4);
         faultOf("B0S01S10", 7);
+        faultOf("B0P1S00", 6);
+        faultOf("B0S01P1S00", 9);
         due("every 1", Fairs.of("B0S01").booth(0, 1), 1);
         due("every 9", Fairs.of("B0S09").booth(0, 1), 9);
     }
@@ -365,6 +367,23 @@ public final class TextBoundariesTest {
         due("left at", x.person(0, 3), NONE);
         due("nothing is begun", x.booth(0, 3), 0);
         due("it was never there", x.enter(0, 1), 1);
+    }
+
+    @Says("and when THE FAIR is made anew; nobody is in a BOOTH, nobody has THE HAT, there are no STRIPS.")
+    static void fairMadeAnewForgetsTornStrips() {
+        StripsOfFour x = Fairs.ofStrips(2);
+        x.tear(0, 1);
+        x.tear(1, 3);
+        x.fair();
+        due("torn", x.about(8), 0);
+        due("strip 0", x.strip(0, 1), UNKNOWN);
+        due("together", x.together(0), 0);
+        due("eyes", x.eyes(0, 0), 0);
+        due("forgery", x.forgery(0, 0, 0), NONE);
+        due("orders", x.orders(), 1);
+        x.enter(0, 0);
+        Fairs.minutes(x, 4);
+        due("a new one is not torn", x.about(8), 0);
     }
 
     @Says("THE TEXT is THE FAIR (no ACTS")
